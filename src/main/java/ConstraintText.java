@@ -505,10 +505,17 @@ public final class ConstraintText {
 
         /** The newest row's pattern is the word that was printed last. */
         void setPattern(int slot, int length) {
-            if (rowCount > 0 && slot >= 0 && slot < PATTERNS) {
-                patternStarts[(rowCount - 1) * PATTERNS + slot] = printedLength - length;
-                patternLengths[(rowCount - 1) * PATTERNS + slot] = length;
+            int pattern = patternOf(rowCount, slot);
+            if (pattern != NONE) {
+                patternStarts[pattern] = printedLength - length;
+                patternLengths[pattern] = length;
             }
+        }
+
+        /** The place of a row's pattern in the lists of them all; NONE if there is no such row or slot. */
+        private int patternOf(int row, int slot) {
+            boolean known = row >= 1 && row <= rowCount && slot >= 0 && slot < PATTERNS;
+            return known ? (row - 1) * PATTERNS + slot : NONE;
         }
 
         boolean newestHasPattern() {
@@ -548,16 +555,15 @@ public final class ConstraintText {
 
         /** The pins that a pattern of a row matches, a bit for each. */
         long hitsOf(int row, int slot) {
-            boolean known = row >= 1 && row <= rowCount && slot >= 0 && slot < PATTERNS;
-            return known ? hits[(row - 1) * PATTERNS + slot] : 0;
+            int pattern = patternOf(row, slot);
+            return pattern == NONE ? 0 : hits[pattern];
         }
 
         void matchPin(Pins pins, int pin) {
             for (int pattern = 0; pattern < rowCount * PATTERNS; pattern++) {
                 if (patternLengths[pattern] > 0) {
-                    long bit = 1L << pin;
-                    boolean fits = fits(pattern, pins, pin);
-                    hits[pattern] = fits ? hits[pattern] | bit : hits[pattern] & ~bit;
+                    long others = hits[pattern] & ~(1L << pin);
+                    hits[pattern] = fits(pattern, pins, pin) ? others | 1L << pin : others;
                 }
             }
         }
@@ -659,8 +665,8 @@ public final class ConstraintText {
         }
 
         private boolean hasPattern(int row, int slot) {
-            boolean known = row >= 1 && row <= rowCount && slot >= 0 && slot < PATTERNS;
-            return known && patternLengths[(row - 1) * PATTERNS + slot] > 0;
+            int pattern = patternOf(row, slot);
+            return pattern != NONE && patternLengths[pattern] > 0;
         }
 
         private boolean matches(int row, int slot, int pin) {

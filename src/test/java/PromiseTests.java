@@ -285,6 +285,9 @@ public final class PromiseTests {
         faultAt("derive a a 1 1 x;derive c #d 1 1 x;", "#");
         faultAt("clock ab 2 0 1 x;derive c #a 1 1 x;", "#");
         faultAt("clock ab 2 0 1 x;derive c #abc 1 1 x;", "#");
+        faultAt("clock ab 2 0 1 x;derive c #ac 1 1 x;", "#");
+        faultAt("clock ab 2 0 1 x;derive c #cb 1 1 x;", "#");
+        fine("clock ab 2 0 1 x;clock ac 2 0 1 x;clock cb 2 0 1 x;apart ab cb;", 4);
     }
 
     private static void readRings() {
@@ -302,6 +305,7 @@ public final class PromiseTests {
     private static void readGreatClocks() {
         fine("clock a 1000 0 1 x;derive b a 1000 1 x;", 2);
         faultAt("clock a 1001 0 1 x;derive #b a 1000 1 x;", "#");
+        faultAt("clock a 9901 0 1 x;derive #b a 101 1 x;", "#");
                 fine("clock a 999 0 1 x;derive b a 1 1000 x;derive c b 1 1000 x;", 3);
         faultAt("clock a 999 0 1 x;derive b a 1 1000 x;derive c b 1 1000 x;derive #d c 1 3 x;", "#");
         faultAt("clock a 1001 0 1 x;derive #c b 1 1000 x;derive b a 1000 1 x;", "#");
@@ -345,6 +349,23 @@ public final class PromiseTests {
         }
     }
 
+    private static void readsDoNotMix() {
+        ConstraintText text = Use.withPins("x");
+        String[] texts = {"load 9 x;clock a 6 4 2 x;derive b a 1 2 x;derive c b 1 2 x;",
+            "derive c b 1 3 x;turned b a 1 2 x;clock a 6 4 2 x;load 8 x;",
+            "clock a 999999 4 2 x;derive b a 1000 1 x;derive c b 1000 1 x;"};
+        for (int i = 0; i < 12; i++) {
+            int due = i % 3 == 2 ? -1 - 28 : 4;
+            CHECKS.same("one text of three", Use.read(text, texts[i % 3]), due);
+            boolean first = i % 3 == 0;
+            clockIs(text, first ? 0 : 2, 6, 4, 2, 1, first ? 2 : 3, NONE, 1);
+            clockIs(text, 1, 3, first ? 2 : 1, first ? 1 : 2, 1, first ? 3 : 2, first ? 0 : 2, 1);
+            clockIs(text, first ? 2 : 0, first ? new int[] {3, 2, 1, 2, 4, 1, 1} : new int[] {3, 1, 2, 3, 1, 1, 1});
+            CHECKS.same("value of row 1", text.row(1, 1), first ? 9 : 0);
+            CHECKS.same("value of row 4", text.row(4, 1), first ? 0 : 8);
+        }
+    }
+
     // Promise 6
     private static void clock() {
         ConstraintText text = Use.withPins("ck", "a/b", "a/c");
@@ -355,6 +376,7 @@ public final class PromiseTests {
         clockIs(text, 2, 9, 6, 3, 1, 4, NONE, 3);
         clockIs(text, 3, 3, 2, 1, 3, 5, 2, 0);
         clockIs(text, 4, 6, 2, 4, 1, 6, 0, 1);
+        readsDoNotMix();
         Use.grow(text, 3, "a/d");
         CHECKS.same("one pin more", text.clock(0, 6), 3);
         for (int bad : new int[] {-1, 5, 12, LEAST, MOST}) {
@@ -422,6 +444,10 @@ public final class PromiseTests {
         distanceIs(far, 2, 4, 123, 123503375000L);
         distanceIs(far, 4, 2, 3, 197605400000L);
         distanceIs(far, 2, 2, 999, 1000000);
+        Use.read(far, "apart a b;clock a 4 0 1 x;clock b 4 1 0 x;clock ab 4 2 0 x;apart a ab;");
+        distanceIs(far, 1, 0, 0, 1);
+        distanceIs(far, 0, 2, 0, 1);
+        distanceIs(far, 1, 2, 1, 1);
         for (int bad : new int[] {-1, 5, LEAST, MOST}) {
             CHECKS.refused("distance from " + bad, () -> text.distance(bad, 0, 0));
             CHECKS.refused("distance to " + bad, () -> text.distance(0, bad, 0));
@@ -544,6 +570,9 @@ public final class PromiseTests {
         CHECKS.same("unmatched far", text.unmatched(MOST), NONE);
         Use.grow(text, 2, "x");
         CHECKS.same("unmatched with x", text.unmatched(0), 9);
+        Use.read(text, "load 1 zz;load 1 a;load 2 yy;");
+        CHECKS.same("unmatched first row", text.unmatched(0), 1);
+        CHECKS.same("unmatched last row", text.unmatched(1), 3);
         CHECKS.refused("unmatched -1", () -> text.unmatched(-1));
         CHECKS.refused("unmatched least", () -> text.unmatched(LEAST));
     }
@@ -598,6 +627,8 @@ public final class PromiseTests {
         CHECKS.same("far", text.write(MOST), NONE);
         CHECKS.same("read what is printed", Use.read(text, due), 8);
         CHECKS.same("printed again", Use.printed(text), due);
+        Use.read(text, "load 100000 x;load 999999 x;load 010000 x;load 9 x;load 10 x;");
+        CHECKS.same("tens", Use.printed(text), "load 100000 x;\nload 999999 x;\nload 10000 x;\nload 9 x;\nload 10 x;\n");
         for (int bad : new int[] {-1, LEAST}) {
             CHECKS.refused("write " + bad, () -> text.write(bad));
         }
