@@ -364,6 +364,15 @@ public final class PromiseTests {
             CHECKS.same("value of row 1", text.row(1, 1), first ? 9 : 0);
             CHECKS.same("value of row 4", text.row(4, 1), first ? 0 : 8);
         }
+        String great = "clock a 9999 0 1 x;derive b a 1000 1 x;";
+        CHECKS.same("a great clock", Use.read(text, great), -1 - 26);
+        CHECKS.same("one clock behind a great one", Use.read(text, "clock a 2 0 1 x;"), 1);
+        CHECKS.same("a great clock", Use.read(text, great), -1 - 26);
+        CHECKS.same("two clocks behind a great one", Use.read(text, "clock a 2 0 1 x;clock b 2 0 1 x;"), 2);
+        Use.read(text, "load 9 x;");
+        Use.read(text, "load 9 x;");
+        Use.read(text, "clock a 2 0 1 x;");
+        CHECKS.same("value behind a load's", text.row(1, 1), 0);
     }
 
     // Promise 6
