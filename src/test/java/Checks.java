@@ -1,21 +1,28 @@
-/** Counts answers that are not as due, and tells of each. */
+/** Counts answers that are not as due, and tells of each, with the document's sentence that asks for it. */
 final class Checks {
+    private String sentence = "";
+    private int sentences = 0;
     private int made = 0;
     private int wrong = 0;
+
+    /** What is checked from here on is what the document says in these words under this heading. */
+    void sentence(String heading, String words) {
+        sentence = heading + ", \"" + words + "\": ";
+        sentences++;
+        yes("these words stand in the document", Document.says(heading, words));
+    }
 
     void same(String what, long got, long due) {
         made++;
         if (got != due) {
-            wrong++;
-            System.out.println(what + " answered " + got + ", due is " + due);
+            tell(what + " answered " + got + ", due is " + due);
         }
     }
 
     void same(String what, String got, String due) {
         made++;
         if (!got.equals(due)) {
-            wrong++;
-            System.out.println(what + " answered '" + got + "', due is '" + due + "'");
+            tell(what + " answered '" + got + "', due is '" + due + "'");
         }
     }
 
@@ -37,9 +44,13 @@ final class Checks {
             thrown = e.getClass();
         }
         if (thrown != IndexOutOfBoundsException.class) {
-            wrong++;
-            System.out.println(what + " threw " + thrown + ", due is IndexOutOfBoundsException");
+            tell(what + " threw " + thrown + ", due is IndexOutOfBoundsException");
         }
+    }
+
+    private void tell(String fault) {
+        wrong++;
+        System.out.println(sentence + fault);
     }
 
     int wrong() {
@@ -47,7 +58,8 @@ final class Checks {
     }
 
     void end(String title) {
-        System.out.println(title + ": " + made + " checks, " + wrong + " wrong");
+        String of = sentences > 0 ? " of " + sentences + " sentences" : "";
+        System.out.println(title + ": " + made + " checks" + of + ", " + wrong + " wrong");
         if (wrong != 0) {
             System.exit(1);
         }

@@ -10,6 +10,7 @@ public final class PromiseTests {
     private static final int LEAST = Integer.MIN_VALUE;
     private static final int MOST = Integer.MAX_VALUE;
     private static final Checks CHECKS = new Checks();
+    private static final Reads READS = new Reads(CHECKS);
 
     private PromiseTests() {
     }
@@ -167,101 +168,88 @@ public final class PromiseTests {
         CHECKS.same("as long", text.load(0, 0), 4);
     }
 
-    private static void fault(String rows, int fault) {
-        CHECKS.same("read '" + rows + "'", Use.read(new ConstraintText(), rows), -1 - fault);
-    }
-
-    private static void faultAt(String rows, String mark) {
-        int place = rows.indexOf(mark);
-        fault(rows.substring(0, place) + rows.substring(place + mark.length()), place);
-    }
-
-    private static void fine(String rows, int due) {
-        CHECKS.same("read '" + rows + "'", Use.read(new ConstraintText(), rows), due);
-    }
-
     // Promise 5
     private static void readRows() {
-        fine("", 0);
-        fine(" \n  ", 0);
-        fine("clock c 000010 000000 5 x;", 1);
-        fine("clock clock 2 1 0 *?_/09az;", 1);
-        fine("clock abcdefgh 999999 999998 999997 abcdefghijklmnop;", 1);
-        fine("\nclock\nc 2\n\n1 0  x\n;\n", 1);
-        fine("derive a b 1000 1 x;clock b 2 0 1 x;turned c a 1 1000 y;", 3);
-        fine("apart a a;clock a 2 0 1 x;", 2);
-        fine("false a - -;false - a -;false - - a;false a b c;", 4);
-        fine("cycles 2 a - -;cycles 100 - a -;cycles 000002 - - a;", 3);
-        fine("most 0 a - -;least 999999 - a -;", 2);
-        fine("load 0 a;slope 999999 a;", 2);
+        READS.fine("", 0);
+        READS.fine(" \n  ", 0);
+        READS.fine("clock c 000010 000000 5 x;", 1);
+        READS.fine("clock clock 2 1 0 *?_/09az;", 1);
+        READS.fine("clock abcdefgh 999999 999998 999997 abcdefghijklmnop;", 1);
+        READS.fine("\nclock\nc 2\n\n1 0  x\n;\n", 1);
+        READS.fine("derive a b 1000 1 x;clock b 2 0 1 x;turned c a 1 1000 y;", 3);
+        READS.fine("apart a a;clock a 2 0 1 x;", 2);
+        READS.fine("false a - -;false - a -;false - - a;false a b c;", 4);
+        READS.fine("cycles 2 a - -;cycles 100 - a -;cycles 000002 - - a;", 3);
+        READS.fine("most 0 a - -;least 999999 - a -;", 2);
+        READS.fine("load 0 a;slope 999999 a;", 2);
     }
 
     private static void readWordsThatCannotStand() {
-        faultAt("#;", "#");
-        faultAt("#clocks c 2 0 1 x;", "#");
-        faultAt("#Clock c 2 0 1 x;", "#");
-        faultAt("#cloc c 2 0 1 x;", "#");
-        faultAt("load 1 x; #x", "#");
-        faultAt("load 1 x;#;", "#");
-        faultAt("clock #;", "#");
-        faultAt("clock #C 2 0 1 x;", "#");
-        faultAt("clock #c1 2 0 1 x;", "#");
-        faultAt("clock #abcdefghi 2 0 1 x;", "#");
-        faultAt("clock c #0 0 0 x;", "#");
-        faultAt("clock c #-2 0 1 x;", "#");
-        faultAt("clock c #0000002 0 1 x;", "#");
-        faultAt("clock c 2 #2 1 x;", "#");
-        faultAt("clock c 2 1 #2 x;", "#");
-        faultAt("clock c 2 1 #01 x;", "#");
-        faultAt("clock c 1 0 #0 x;", "#");
-        faultAt("clock c 2 1 0 #-;", "#");
-        faultAt("clock c 2 1 0 #abcdefghijklmnopq;", "#");
-        faultAt("clock c 2 1 0 #x+;", "#");
-        faultAt("clock c 2 1 0 x #y;", "#");
-        faultAt("clock c 2 1 0 x  #", "#");
-        faultAt("clock c 2 1 0 x;load 1 y;derive #c c 1 1 x;", "#");
-        faultAt("derive c #;", "#");
-        faultAt("derive c d #0 1 x;", "#");
-        faultAt("derive c d #1001 1 x;", "#");
-        faultAt("turned c d 1 #0 x;", "#");
-        faultAt("turned c d 1 #1001 x;", "#");
-        faultAt("apart c #;", "#");
-        faultAt("apart #1 c;", "#");
-        faultAt("apart c d #e;", "#");
-        faultAt("false - - #-;", "#");
-        faultAt("false a b #;", "#");
-        faultAt("false #-- a b;", "#");
-        faultAt("false a b c #d;", "#");
-        faultAt("cycles #1 a b c;", "#");
-        faultAt("cycles #101 a b c;", "#");
-        faultAt("cycles #a a b c;", "#");
-        faultAt("cycles 2 - - #-;", "#");
-        faultAt("most #1000000 a b c;", "#");
-        faultAt("least 1 - - #-;", "#");
-        faultAt("load #x x;", "#");
-        faultAt("load 1 #-;", "#");
-        faultAt("slope 1 #;", "#");
-        faultAt("slope 1 x#", "#");
-        faultAt("slope 1 #", "#");
-        faultAt("slope 1   \n#", "#");
-        faultAt("slope#", "#");
+        READS.faultAtMark("#;");
+        READS.faultAtMark("#clocks c 2 0 1 x;");
+        READS.faultAtMark("#Clock c 2 0 1 x;");
+        READS.faultAtMark("#cloc c 2 0 1 x;");
+        READS.faultAtMark("load 1 x; #x");
+        READS.faultAtMark("load 1 x;#;");
+        READS.faultAtMark("clock #;");
+        READS.faultAtMark("clock #C 2 0 1 x;");
+        READS.faultAtMark("clock #c1 2 0 1 x;");
+        READS.faultAtMark("clock #abcdefghi 2 0 1 x;");
+        READS.faultAtMark("clock c #0 0 0 x;");
+        READS.faultAtMark("clock c #-2 0 1 x;");
+        READS.faultAtMark("clock c #0000002 0 1 x;");
+        READS.faultAtMark("clock c 2 #2 1 x;");
+        READS.faultAtMark("clock c 2 1 #2 x;");
+        READS.faultAtMark("clock c 2 1 #01 x;");
+        READS.faultAtMark("clock c 1 0 #0 x;");
+        READS.faultAtMark("clock c 2 1 0 #-;");
+        READS.faultAtMark("clock c 2 1 0 #abcdefghijklmnopq;");
+        READS.faultAtMark("clock c 2 1 0 #x+;");
+        READS.faultAtMark("clock c 2 1 0 x #y;");
+        READS.faultAtMark("clock c 2 1 0 x  #");
+        READS.faultAtMark("clock c 2 1 0 x;load 1 y;derive #c c 1 1 x;");
+        READS.faultAtMark("derive c #;");
+        READS.faultAtMark("derive c d #0 1 x;");
+        READS.faultAtMark("derive c d #1001 1 x;");
+        READS.faultAtMark("turned c d 1 #0 x;");
+        READS.faultAtMark("turned c d 1 #1001 x;");
+        READS.faultAtMark("apart c #;");
+        READS.faultAtMark("apart #1 c;");
+        READS.faultAtMark("apart c d #e;");
+        READS.faultAtMark("false - - #-;");
+        READS.faultAtMark("false a b #;");
+        READS.faultAtMark("false #-- a b;");
+        READS.faultAtMark("false a b c #d;");
+        READS.faultAtMark("cycles #1 a b c;");
+        READS.faultAtMark("cycles #101 a b c;");
+        READS.faultAtMark("cycles #a a b c;");
+        READS.faultAtMark("cycles 2 - - #-;");
+        READS.faultAtMark("most #1000000 a b c;");
+        READS.faultAtMark("least 1 - - #-;");
+        READS.faultAtMark("load #x x;");
+        READS.faultAtMark("load 1 #-;");
+        READS.faultAtMark("slope 1 #;");
+        READS.faultAtMark("slope 1 x#");
+        READS.faultAtMark("slope 1 #");
+        READS.faultAtMark("slope 1   \n#");
+        READS.faultAtMark("slope#");
     }
 
     private static void readLimits() {
         String forty = "load 1 a;".repeat(40);
-        fine(forty, 40);
-        fine(forty + " \n", 40);
-        fault(forty + "\nload 1 a;", forty.length() + 1);
-        fault(forty + "  x", forty.length() + 2);
-        fault(forty + ";", forty.length());
+        READS.fine(forty, 40);
+        READS.fine(forty + " \n", 40);
+        READS.fault(forty + "\nload 1 a;", forty.length() + 1);
+        READS.fault(forty + "  x", forty.length() + 2);
+        READS.fault(forty + ";", forty.length());
         StringBuilder twelve = new StringBuilder();
         for (char c = 'a'; c < 'm'; c++) {
             twelve.append("clock ").append(c).append(" 9 0 1 x;");
         }
-        fine(twelve.toString(), 12);
-        fault(twelve + "clock m 9 0 1 x;", twelve.length() + 6);
-        fault(twelve + "derive m zz 0 1 x;", twelve.length() + 7);
-        fault(twelve + "clock", twelve.length() + 5);
+        READS.fine(twelve.toString(), 12);
+        READS.fault(twelve + "clock m 9 0 1 x;", twelve.length() + 6);
+        READS.fault(twelve + "derive m zz 0 1 x;", twelve.length() + 7);
+        READS.fault(twelve + "clock", twelve.length() + 5);
         String tail = "load 1 a;";
         String longest = " ".repeat(1200 - tail.length()) + tail;
         ConstraintText text = new ConstraintText();
@@ -276,50 +264,50 @@ public final class PromiseTests {
     }
 
     private static void readNamesThatAreNoClock() {
-        faultAt("derive c #d 1 1 x;", "#");
-        faultAt("apart #a b;", "#");
-        faultAt("clock a 2 0 1 x;apart a #b;", "#");
-        faultAt("clock a 2 0 1 x;apart a #b;derive c d 1 1 x;", "#");
-        faultAt("derive c #d 1 1 x;apart a b;", "#");
-        faultAt("derive c d 1 1 x;load #x x;", "#");
-        faultAt("derive a a 1 1 x;derive c #d 1 1 x;", "#");
-        faultAt("clock ab 2 0 1 x;derive c #a 1 1 x;", "#");
-        faultAt("clock ab 2 0 1 x;derive c #abc 1 1 x;", "#");
-        faultAt("clock ab 2 0 1 x;derive c #ac 1 1 x;", "#");
-        faultAt("clock ab 2 0 1 x;derive c #cb 1 1 x;", "#");
-        fine("clock ab 2 0 1 x;clock ac 2 0 1 x;clock cb 2 0 1 x;apart ab cb;", 4);
+        READS.faultAtMark("derive c #d 1 1 x;");
+        READS.faultAtMark("apart #a b;");
+        READS.faultAtMark("clock a 2 0 1 x;apart a #b;");
+        READS.faultAtMark("clock a 2 0 1 x;apart a #b;derive c d 1 1 x;");
+        READS.faultAtMark("derive c #d 1 1 x;apart a b;");
+        READS.faultAtMark("derive c d 1 1 x;load #x x;");
+        READS.faultAtMark("derive a a 1 1 x;derive c #d 1 1 x;");
+        READS.faultAtMark("clock ab 2 0 1 x;derive c #a 1 1 x;");
+        READS.faultAtMark("clock ab 2 0 1 x;derive c #abc 1 1 x;");
+        READS.faultAtMark("clock ab 2 0 1 x;derive c #ac 1 1 x;");
+        READS.faultAtMark("clock ab 2 0 1 x;derive c #cb 1 1 x;");
+        READS.fine("clock ab 2 0 1 x;clock ac 2 0 1 x;clock cb 2 0 1 x;apart ab cb;", 4);
     }
 
     private static void readRings() {
-        faultAt("derive #c c 1 1 x;", "#");
-        faultAt("clock b 2 0 1 x;derive d b 1 1 x;derive #c c 1 1 x;", "#");
-        faultAt("derive e a 1 1 x;derive #a b 1 1 x;turned b a 1 1 x;", "#");
-        faultAt("clock z 999999 0 1 x;derive y z 1000 1 x;derive #a b 1 1 x;derive b c 1 1 x;derive c a 1 1 x;", "#");
+        READS.faultAtMark("derive #c c 1 1 x;");
+        READS.faultAtMark("clock b 2 0 1 x;derive d b 1 1 x;derive #c c 1 1 x;");
+        READS.faultAtMark("derive e a 1 1 x;derive #a b 1 1 x;turned b a 1 1 x;");
+        READS.faultAtMark("clock z 999999 0 1 x;derive y z 1000 1 x;derive #a b 1 1 x;derive b c 1 1 x;derive c a 1 1 x;");
         StringBuilder ring = new StringBuilder();
         for (char c = 'a'; c < 'm'; c++) {
             ring.append("derive ").append(c).append(' ').append(c == 'l' ? 'a' : (char) (c + 1)).append(" 1 1 x;");
         }
-        fault(ring.toString(), 7);
+        READS.fault(ring.toString(), 7);
     }
 
     private static void readGreatClocks() {
-        fine("clock a 1000 0 1 x;derive b a 1000 1 x;", 2);
-        faultAt("clock a 1001 0 1 x;derive #b a 1000 1 x;", "#");
-        faultAt("clock a 9901 0 1 x;derive #b a 101 1 x;", "#");
-                fine("clock a 999 0 1 x;derive b a 1 1000 x;derive c b 1 1000 x;", 3);
-        faultAt("clock a 999 0 1 x;derive b a 1 1000 x;derive c b 1 1000 x;derive #d c 1 3 x;", "#");
-        faultAt("clock a 1001 0 1 x;derive #c b 1 1000 x;derive b a 1000 1 x;", "#");
-        faultAt("clock a 1001 0 1 x;derive b a 1 1000 x;derive #c d 1 1000 x;turned d a 1000 1 x;", "#");
-        faultAt("clock a 999999 0 9 x;derive #b a 1000 999 x;", "#");
-        fine("clock a 999 0 9 x;derive b a 1000 999 x;", 2);
-        fine("clock a 999000 0 999 x;derive b a 1000 999 x;", 2);
+        READS.fine("clock a 1000 0 1 x;derive b a 1000 1 x;", 2);
+        READS.faultAtMark("clock a 1001 0 1 x;derive #b a 1000 1 x;");
+        READS.faultAtMark("clock a 9901 0 1 x;derive #b a 101 1 x;");
+        READS.fine("clock a 999 0 1 x;derive b a 1 1000 x;derive c b 1 1000 x;", 3);
+        READS.faultAtMark("clock a 999 0 1 x;derive b a 1 1000 x;derive c b 1 1000 x;derive #d c 1 3 x;");
+        READS.faultAtMark("clock a 1001 0 1 x;derive #c b 1 1000 x;derive b a 1000 1 x;");
+        READS.faultAtMark("clock a 1001 0 1 x;derive b a 1 1000 x;derive #c d 1 1000 x;turned d a 1000 1 x;");
+        READS.faultAtMark("clock a 999999 0 9 x;derive #b a 1000 999 x;");
+        READS.fine("clock a 999 0 9 x;derive b a 1000 999 x;", 2);
+        READS.fine("clock a 999000 0 999 x;derive b a 1000 999 x;", 2);
         StringBuilder chain = new StringBuilder();
         for (char c = 'a'; c < 'l'; c++) {
             chain.append("derive ").append(c).append(' ').append((char) (c + 1)).append(" 1000 1000 x;");
         }
-        fine(chain + "clock l 7 5 3 x;", 12);
+        READS.fine(chain + "clock l 7 5 3 x;", 12);
         String great = chain.toString().replace("1000 1000", "1000 1");
-        fault(great + "clock l 7 5 3 x;", 7);
+        READS.fault(great + "clock l 7 5 3 x;", 7);
     }
 
     private static void readKeepsRowsBefore() {

@@ -34,8 +34,10 @@ final class Use {
 
     static String printed(ConstraintText text) {
         StringBuilder all = new StringBuilder();
-        for (int i = 0; text.write(i) != ConstraintText.NONE; i++) {
-            all.append((char) text.write(i));
+        int u = text.write(0);
+        while (u != ConstraintText.NONE) {
+            all.append((char) u);
+            u = text.write(all.length());
         }
         return all.toString();
     }

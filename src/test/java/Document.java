@@ -1,0 +1,31 @@
+import java.io.IOException;
+import java.nio.charset.StandardCharsets;
+import java.nio.file.Files;
+import java.nio.file.Path;
+
+/** The project's document, in which each sentence that a test is named after can be looked up. */
+final class Document {
+    private static final String TEXT = text();
+
+    private Document() {
+    }
+
+    private static String text() {
+        try {
+            return Files.readString(Path.of("..", "shared", "DOC.md"), StandardCharsets.UTF_8);
+        } catch (IOException e) {
+            throw new IllegalStateException("the document cannot be read", e);
+        }
+    }
+
+    /** Whether the words stand under the heading that begins so; how wide their blanks are does not count. */
+    static boolean says(String heading, String words) {
+        int start = TEXT.indexOf("\n## " + heading);
+        if (start < 0) {
+            return false;
+        }
+        int next = TEXT.indexOf("\n## ", start + 1);
+        String section = TEXT.substring(start, next < 0 ? TEXT.length() : next);
+        return section.replaceAll("\\s+", " ").contains(words);
+    }
+}
