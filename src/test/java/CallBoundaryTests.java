@@ -204,6 +204,22 @@ public final class CallBoundaryTests {
         String forty = "load 1 a;".repeat(40);
         CHECKS.same("forty rows", Use.read(text, forty), 40);
         CHECKS.same("forty rows", text.count(0), 40);
+        patternsBeforeAreGone();
+    }
+
+    private static void patternsBeforeAreGone() {
+        ConstraintText text = reading("false a zz c;false zz - -;");
+        for (int i = 0; i < 3; i++) {
+            Use.read(text, "false - b -;apart c c;clock c 2 0 1 a;");
+            CHECKS.same("a row without its patterns of before", text.exception(NONE, 1, NONE), 1);
+            CHECKS.same("no row matches no pin", text.unmatched(0), NONE);
+            Use.read(text, "false zz - -;false a zz c;load 1 zz;");
+            CHECKS.same("a row with other patterns", text.exception(NONE, 1, NONE), 0);
+            CHECKS.same("each row matches no pin", text.unmatched(2), 3);
+            // A third text, so that what an object keeps of one, or of two, texts before would show.
+            Use.read(text, "most 1 a zz c;least 1 zz zz zz;");
+            CHECKS.same("each row matches no pin", text.unmatched(1), 2);
+        }
     }
 
     private static void readWithAFaultLeavesTheRows() {

@@ -88,7 +88,7 @@ public final class TextBoundaryTests {
         valueIs("load 999999 a;", 999999);
         valueIs("load 100000 a;", 100000);
         for (String bad : new String[] {"1000000", "0000001", "0000000", "9999999", "4294967297", "18446744073709551617",
-            "-1", "+1", "1.", "1e", "a", "-", "*", "/", ":", "1_"}) {
+            "-1", "+1", "1.", "1e", "a", "-", "*", "/", ":", "1_", "1/", "/1", "1:", ":1"}) {
             READS.faultAtMark("load #" + bad + " a;");
             READS.faultAtMark("most #" + bad + " a a a;");
             READS.faultAtMark("clock c #" + bad + " 0 1 a;");
