@@ -59,6 +59,8 @@ public final class TextBoundaryTests {
         CHECKS.sentence("Terms", "rows of other characters than blanks (32, 10) and ; as long as can be");
         READS.fine("load 1 a;slope 1 a;", 2);
         READS.fine("\n \n load\n1 \n a \n;\n \n", 1);
+        READS.fine("clock\nc 2 0 1 x;apart c\nc;derive d c 1 1 x;", 3);
+        READS.faultAtMark("clock c 2 0 1 x;clock\n#c 2 0 1 x;");
         READS.faultAtMark("#load1 a;");
         READS.faultAtMark("load #1a;");
         READS.faultAtMark("#loadload 1 a;");
